@@ -1,11 +1,7 @@
-/** Each promise on its own, with answers worked out by hand. */
+/** Each promise on its own, with ordinary inputs and answers worked out by hand. */
 public final class PromisesTest {
-    private static final int LEAST = Integer.MIN_VALUE;
-    private static final int MOST = Integer.MAX_VALUE;
-    private static final int[] OFF_SIDE = {-1, 5, 6, 24, -5, LEAST, MOST};
-    // Workers 0 to 4 have the tasks 0 1 2 3 4, and 4 3 2 1 0.
-    private static final int STRAIGHT = 194;
-    private static final int REVERSED = 2930;
+    private static final int STRAIGHT = Situations.STRAIGHT;
+    private static final int REVERSED = Situations.REVERSED;
     private static final Checks checks = new Checks();
 
     public static void main(String[] args) {
@@ -13,56 +9,15 @@ public final class PromisesTest {
         promise1ObjectsAreApart();
         promise2Price();
         promise2PriceUnbars();
-        promise2Refusals();
         promise3Bar();
-        promise3Refusals();
         promise4Plans();
         promise5Cost();
-        promise5Edges();
         promise6Plan();
-        promise6Edges();
         promise7Task();
-        promise7Edges();
         promise8Within();
         promise9Rank();
-        promise9Edges();
         promise10CheapestWith();
-        promise10Edges();
         checks.end("PromisesTest");
-    }
-
-    private static RankedPairs allAt(int price) {
-        RankedPairs x = new RankedPairs();
-        for (int worker = 0; worker < 5; worker++) {
-            for (int task = 0; task < 5; task++) {
-                x.price(worker, task, price);
-            }
-        }
-        return x;
-    }
-
-    private static RankedPairs withoutPlans() {
-        RankedPairs x = new RankedPairs();
-        for (int task = 0; task < 5; task++) {
-            x.bar(2, task);
-        }
-        return x;
-    }
-
-    /** Only the plan 2 0 4 1 3 is left, priced 1, 2, 4, 8 and 16 from worker 0 on. */
-    private static RankedPairs onePlan() {
-        int[] tasks = {2, 0, 4, 1, 3};
-        RankedPairs x = new RankedPairs();
-        for (int worker = 0; worker < 5; worker++) {
-            for (int task = 0; task < 5; task++) {
-                if (tasks[worker] == task) {
-                    x.price(worker, task, 1 << worker);
-                } else {
-                    x.bar(worker, task);
-                }
-            }
-        }
-        return x;
     }
 
     private static void promise1NewObject() {
@@ -116,32 +71,6 @@ public final class PromisesTest {
         checks.due("2: price of a barred pair", 0, x.price(2, 2, 0));
         checks.due("2: not barred", 120, x.plans());
         checks.due("2: new price", 0, x.cheapestWith(2, 2));
-        x.bar(2, 2);
-        checks.due("2: 100 for a barred pair", -1, x.price(2, 2, 100));
-        checks.due("2: -1 for a barred pair", -1, x.price(2, 2, -1));
-        checks.due("2: still barred", 96, x.plans());
-    }
-
-    private static void promise2Refusals() {
-        RankedPairs x = allAt(1);
-        x.bar(0, 0);
-        for (int off : OFF_SIDE) {
-            checks.due("2: worker " + off, -1, x.price(off, 0, 9));
-            checks.due("2: task " + off, -1, x.price(0, off, 9));
-            checks.due("2: both " + off, -1, x.price(off, off, 9));
-            checks.due("2: worker " + off + ", task 4", -1, x.price(off, 4, 9));
-            checks.due("2: worker 4, task " + off, -1, x.price(4, off, 9));
-        }
-        // A worker too far and a task too near would meet on a pair that there is.
-        checks.due("2: (1, -1)", -1, x.price(1, -1, 9));
-        checks.due("2: (5, -1)", -1, x.price(5, -1, 9));
-        checks.due("2: (-1, 5)", -1, x.price(-1, 5, 9));
-        for (int price : new int[] {-1, 100, -2, 101, LEAST, MOST}) {
-            checks.due("2: price " + price, -1, x.price(3, 3, price));
-        }
-        checks.due("2: plans stay", 96, x.plans());
-        checks.due("2: least cost stays", 5, x.cost(0));
-        checks.due("2: greatest cost stays", 5, x.cost(95));
     }
 
     private static void promise3Bar() {
@@ -158,18 +87,6 @@ public final class PromisesTest {
         checks.due("3: plans without three", 72 - 24 + 12, x.plans());
     }
 
-    private static void promise3Refusals() {
-        RankedPairs x = new RankedPairs();
-        for (int off : OFF_SIDE) {
-            checks.due("3: worker " + off, -1, x.bar(off, 0));
-            checks.due("3: task " + off, -1, x.bar(0, off));
-            checks.due("3: both " + off, -1, x.bar(off, off));
-        }
-        checks.due("3: (1, -1)", -1, x.bar(1, -1));
-        checks.due("3: (-1, 5)", -1, x.bar(-1, 5));
-        checks.due("3: plans stay", 120, x.plans());
-    }
-
     private static void promise4Plans() {
         RankedPairs x = new RankedPairs();
         int[] due = {96, 78, 64, 53, 44};
@@ -177,42 +94,14 @@ public final class PromisesTest {
             x.bar(i, i);
             checks.due("4: plans with " + (i + 1) + " bars", due[i], x.plans());
         }
-        checks.due("4: plans whatever the prices", 120, allAt(99).plans());
-        checks.due("4: one plan", 1, onePlan().plans());
-        RankedPairs none = withoutPlans();
-        checks.due("4: no plan", 0, none.plans());
-        none.price(2, 3, 4);
-        checks.due("4: plans again", 24, none.plans());
-        RankedPairs column = new RankedPairs();
-        for (int worker = 0; worker < 5; worker++) {
-            column.bar(worker, 3);
-        }
-        checks.due("4: a task that no worker may have", 0, column.plans());
     }
 
     private static void promise5Cost() {
-        checks.due("5: sum of five prices", 31, onePlan().cost(0));
-        checks.due("5: greatest cost", 495, allAt(99).cost(0));
-        checks.due("5: greatest cost at the end", 495, allAt(99).cost(119));
-        RankedPairs x = new RankedPairs();
-        for (int task = 0; task < 5; task++) {
-            x.price(0, task, 50 - 10 * task);
-        }
+        checks.due("5: sum of five prices", 31, Situations.onePlan().cost(0));
+        RankedPairs x = Situations.stairs();
         for (int rank = 0; rank < 120; rank++) {
             checks.due("5: cost(" + rank + ")", 10 + 10 * (rank / 24), x.cost(rank));
         }
-    }
-
-    private static void promise5Edges() {
-        RankedPairs x = new RankedPairs();
-        for (int rank : new int[] {-1, 120, 121, 3125, LEAST, MOST}) {
-            checks.due("5: cost(" + rank + ")", -1, x.cost(rank));
-        }
-        x.bar(4, 4);
-        checks.due("5: last rank", 0, x.cost(95));
-        checks.due("5: rank that is gone", -1, x.cost(96));
-        checks.due("5: one plan's second", -1, onePlan().cost(1));
-        checks.due("5: no plans", -1, withoutPlans().cost(0));
     }
 
     private static void promise6Plan() {
@@ -220,7 +109,8 @@ public final class PromisesTest {
         for (int rank = 1; rank < 120; rank++) {
             checks.dueTrue("6: equally dear plans by number", x.plan(rank - 1) < x.plan(rank));
         }
-        checks.due("6: number", 2 * 625 + 0 * 125 + 4 * 25 + 1 * 5 + 3, onePlan().plan(0));
+        int number = 2 * 625 + 0 * 125 + 4 * 25 + 1 * 5 + 3;
+        checks.due("6: number", number, Situations.onePlan().plan(0));
         x.price(0, 0, 1);
         checks.due("6: cheaper before lesser number", 1 * 625 + 2 * 25 + 3 * 5 + 4, x.plan(0));
         checks.due("6: last of the cheap ones", REVERSED, x.plan(95));
@@ -230,20 +120,8 @@ public final class PromisesTest {
         checks.due("6: first after the price is back", STRAIGHT, x.plan(0));
     }
 
-    private static void promise6Edges() {
-        RankedPairs x = new RankedPairs();
-        for (int rank : new int[] {-1, 120, 121, 3125, LEAST, MOST}) {
-            checks.due("6: plan(" + rank + ")", -1, x.plan(rank));
-        }
-        x.bar(0, 4);
-        checks.due("6: last rank", 3 * 625 + 4 * 125 + 2 * 25 + 1 * 5, x.plan(95));
-        checks.due("6: rank that is gone", -1, x.plan(96));
-        checks.due("6: one plan's second", -1, onePlan().plan(1));
-        checks.due("6: no plans", -1, withoutPlans().plan(0));
-    }
-
     private static void promise7Task() {
-        RankedPairs one = onePlan();
+        RankedPairs one = Situations.onePlan();
         int[] due = {2, 0, 4, 1, 3};
         RankedPairs x = new RankedPairs();
         for (int worker = 0; worker < 5; worker++) {
@@ -256,37 +134,13 @@ public final class PromisesTest {
         checks.due("7: first plan after a price, next worker", 0, x.task(0, 1));
     }
 
-    private static void promise7Edges() {
-        RankedPairs x = new RankedPairs();
-        for (int rank : new int[] {-1, 120, 121, LEAST, MOST}) {
-            checks.due("7: rank " + rank, -1, x.task(rank, 0));
-            checks.due("7: rank and worker " + rank, -1, x.task(rank, rank));
-        }
-        for (int off : OFF_SIDE) {
-            checks.due("7: worker " + off, -1, x.task(0, off));
-            checks.due("7: last plan, worker " + off, -1, x.task(119, off));
-        }
-        checks.due("7: one plan's second", -1, onePlan().task(1, 0));
-        checks.due("7: no plans", -1, withoutPlans().task(0, 0));
-    }
-
     private static void promise8Within() {
-        RankedPairs x = new RankedPairs();
-        for (int task = 0; task < 5; task++) {
-            x.price(0, task, 50 - 10 * task);
-        }
-        int[] limits = {LEAST, -1, 0, 9, 10, 11, 19, 20, 30, 40, 49, 50, 51, 495, MOST};
-        int[] due = {0, 0, 0, 0, 24, 24, 24, 48, 72, 96, 96, 120, 120, 120, 120};
+        RankedPairs x = Situations.stairs();
+        int[] limits = {5, 15, 25, 35, 45, 55, 300};
+        int[] due = {0, 24, 48, 72, 96, 120, 120};
         for (int i = 0; i < limits.length; i++) {
             checks.due("8: within(" + limits[i] + ")", due[i], x.within(limits[i]));
         }
-        checks.due("8: below the greatest cost", 0, allAt(99).within(494));
-        checks.due("8: the greatest cost", 120, allAt(99).within(495));
-        checks.due("8: one plan, below", 0, onePlan().within(30));
-        checks.due("8: one plan", 1, onePlan().within(31));
-        checks.due("8: no plans", 0, withoutPlans().within(MOST));
-        checks.due("8: no plans, -1", 0, withoutPlans().within(-1));
-        checks.due("8: new object, -1", 0, new RankedPairs().within(-1));
     }
 
     private static void promise9Rank() {
@@ -299,23 +153,7 @@ public final class PromisesTest {
         for (int rank = 0; rank < 120; rank++) {
             checks.due("9: rank of plan(" + rank + ")", rank, x.rank(x.plan(rank)));
         }
-        checks.due("9: one plan", 0, onePlan().rank(1358));
-    }
-
-    private static void promise9Edges() {
-        RankedPairs x = new RankedPairs();
-        int[] noPlans = {0, 1, 193, 195, 624, 2931, 3124, 3125, STRAIGHT + 3125, -1, -STRAIGHT,
-                -REVERSED, LEAST, MOST};
-        for (int number : noPlans) {
-            checks.due("9: rank(" + number + ")", -1, x.rank(number));
-        }
-        x.bar(3, 3);
-        checks.due("9: plan with a barred pair", -1, x.rank(STRAIGHT));
-        // It was the last rank and is so still; the numbers left behind it do not count.
-        checks.due("9: last rank", 95, x.rank(REVERSED));
-        checks.due("9: one plan, another number", -1, onePlan().rank(STRAIGHT));
-        checks.due("9: no plans", -1, withoutPlans().rank(STRAIGHT));
-        checks.due("9: no plans, last number", -1, withoutPlans().rank(REVERSED));
+        checks.due("9: one plan", 0, Situations.onePlan().rank(Situations.ONLY));
     }
 
     private static void promise10CheapestWith() {
@@ -329,27 +167,6 @@ public final class PromisesTest {
         // Another worker's task 0 leaves task 1 as worker 0's cheapest.
         checks.due("10: task 0 for worker 3", 11, x.cheapestWith(3, 0));
         checks.due("10: task 1 for worker 3", 10, x.cheapestWith(3, 1));
-        checks.due("10: greatest", 495, allAt(99).cheapestWith(4, 4));
-        checks.due("10: one plan", 31, onePlan().cheapestWith(4, 3));
-    }
-
-    private static void promise10Edges() {
-        RankedPairs x = new RankedPairs();
-        for (int off : OFF_SIDE) {
-            checks.due("10: worker " + off, -1, x.cheapestWith(off, 0));
-            checks.due("10: task " + off, -1, x.cheapestWith(0, off));
-            checks.due("10: both " + off, -1, x.cheapestWith(off, off));
-        }
-        x.bar(1, 2);
-        checks.due("10: barred pair", -1, x.cheapestWith(1, 2));
-        checks.due("10: pair beside it", 0, x.cheapestWith(1, 3));
-        checks.due("10: pair that is in no plan", -1, onePlan().cheapestWith(4, 2));
-        checks.due("10: no plans", -1, withoutPlans().cheapestWith(0, 0));
-        RankedPairs forced = new RankedPairs();
-        for (int task = 0; task < 4; task++) {
-            forced.bar(0, task);
-        }
-        checks.due("10: not barred, yet in no plan", -1, forced.cheapestWith(1, 4));
-        checks.due("10: the forced pair", 0, forced.cheapestWith(0, 4));
+        checks.due("10: one plan", 31, Situations.onePlan().cheapestWith(4, 3));
     }
 }
